@@ -119,7 +119,7 @@ public final class SpreadingDeletes {
     }
 
     public int delete(int table, int key) {
-        int error = checkDelete(table, key);
+        int error = deletion.plan(now, table, key);
         if (error != FINE) {
             return error;
         }
@@ -253,34 +253,25 @@ public final class SpreadingDeletes {
     // ---- what would be; nothing changes
 
     public int gathered(int table, int key, int index) {
-        if (!now.hasRow(table, key)) {
+        if (deletion.plan(now, table, key) == UNKNOWN) {
             return UNKNOWN;
         }
         if (index < 0) {
             return OUT_OF_RANGE;
         }
-        deletion.plan(now, rowNumber(table, key));
         return index < deletion.count ? deletion.order[index] : NONE;
     }
 
     public int reason(int table, int key) {
-        if (!now.hasRow(table, key)) {
-            return UNKNOWN;
-        }
-        deletion.plan(now, rowNumber(table, key));
-        return deletion.refusal;
+        return deletion.plan(now, table, key) == UNKNOWN ? UNKNOWN : deletion.refusal;
     }
 
     public int blocking(int table, int key) {
-        if (!now.hasRow(table, key)) {
-            return UNKNOWN;
-        }
-        deletion.plan(now, rowNumber(table, key));
-        return deletion.blocker;
+        return deletion.plan(now, table, key) == UNKNOWN ? UNKNOWN : deletion.blocker;
     }
 
     public int wouldChange(int table, int key) {
-        int error = checkDelete(table, key);
+        int error = deletion.plan(now, table, key);
         return error == FINE ? deletion.changes : error;
     }
 
@@ -297,21 +288,12 @@ public final class SpreadingDeletes {
         }
         int found = 0;
         for (int rank = 0; rank < now.rowCounts[table]; rank++) {
-            deletion.plan(now, now.rowAt(table, rank));
-            if (deletion.count == 1 && deletion.refusal == 0) {
+            int error = deletion.plan(now, table, now.keys[table * MOST_ROWS + rank]);
+            if (error == FINE && deletion.count == 1) {
                 found++;
             }
         }
         return found;
-    }
-
-    /** Leaves the plan of the deletion behind, for carrying it out. */
-    private int checkDelete(int table, int key) {
-        if (!now.hasRow(table, key)) {
-            return UNKNOWN;
-        }
-        deletion.plan(now, rowNumber(table, key));
-        return deletion.refusal == 0 ? FINE : NOT_POSSIBLE;
     }
 
     /** Carries out the statement that was read last, and tells FINE, NONE or its error. */
@@ -325,7 +307,7 @@ public final class SpreadingDeletes {
                 }
                 return error;
             case '-':
-                error = checkDelete(script.table, script.key);
+                error = deletion.plan(now, script.table, script.key);
                 if (error == FINE) {
                     deletion.carryOut(now);
                 }
@@ -425,10 +407,6 @@ public final class SpreadingDeletes {
             return ABSENT;
         }
 
-        int rowAt(int table, int rank) {
-            return rowNumber(table, keys[table * MOST_ROWS + rank]);
-        }
-
         int valueAt(int slot, int column) {
             return values[slot * MOST_COLUMNS + column];
         }
@@ -441,10 +419,20 @@ public final class SpreadingDeletes {
             return columnReferences[table * MOST_COLUMNS + column];
         }
 
-        /** The value of a row, told by its rank in the child table, in the column of a reference. */
-        int valueBy(int reference, int rank) {
-            int slot = fact(reference, CHILD) * MOST_ROWS + rank;
-            return valueAt(slot, fact(reference, COLUMN));
+        /** A row of the child table of a reference, told by its rank there, or ABSENT. */
+        int childAt(int reference, int rank) {
+            int child = fact(reference, CHILD);
+            return rank < rowCounts[child] ? rowNumber(child, keys[child * MOST_ROWS + rank]) : ABSENT;
+        }
+
+        /** The parent of such a row by the reference, or ABSENT. */
+        int parentAt(int reference, int rank) {
+            int child = fact(reference, CHILD);
+            if (rank >= rowCounts[child]) {
+                return ABSENT;
+            }
+            int value = valueAt(child * MOST_ROWS + rank, fact(reference, COLUMN));
+            return value == NULL ? ABSENT : rowNumber(fact(reference, PARENT), value);
         }
 
         int countRows() {
@@ -466,9 +454,11 @@ public final class SpreadingDeletes {
         /** How many rows of the child table have this value, a key or null, by a reference. */
         int countChildren(int reference, int value) {
             int count = 0;
-            int rowCount = rowCounts[fact(reference, CHILD)];
-            for (int rank = 0; rank < rowCount; rank++) {
-                if (valueBy(reference, rank) == value) {
+            int column = fact(reference, COLUMN);
+            int start = fact(reference, CHILD) * MOST_ROWS;
+            int end = start + rowCounts[fact(reference, CHILD)];
+            for (int slot = start; slot < end; slot++) {
+                if (valueAt(slot, column) == value) {
                     count++;
                 }
             }
@@ -476,8 +466,6 @@ public final class SpreadingDeletes {
         }
 
         int appendTable() {
-            rowCounts[tables] = 0;
-            columnCounts[tables] = 0;
             tables++;
             return tables - 1;
         }
@@ -663,10 +651,14 @@ public final class SpreadingDeletes {
         Deletion() {
         }
 
-        /** Only for a row that there is. */
-        void plan(State state, int row) {
-            gather(state, row);
+        /** Tells UNKNOWN if there is no such row, NOT_POSSIBLE if its deletion is refused, or FINE. */
+        int plan(State state, int table, int key) {
+            if (state.slotOf(table, key) == ABSENT) {
+                return UNKNOWN;
+            }
+            gather(state, rowNumber(table, key));
             judge(state);
+            return refusal == 0 ? FINE : NOT_POSSIBLE;
         }
 
         private void gather(State state, int row) {
@@ -709,9 +701,9 @@ public final class SpreadingDeletes {
             for (int place = places[depth - 1]; place < end; place++) {
                 int reference = place / MOST_ROWS;
                 int rank = place % MOST_ROWS;
-                if (isCascadeTo(state, reference, row) && isChild(state, reference, rank, row)) {
-                    int child = state.rowAt(state.fact(reference, CHILD), rank);
-                    if (marks[child] == 0) {
+                if (state.fact(reference, RULE) == CASCADE && state.parentAt(reference, rank) == row) {
+                    int child = state.childAt(reference, rank);
+                    if (!isMarked(child)) {
                         places[depth - 1] = place + 1;
                         return child;
                     }
@@ -720,33 +712,22 @@ public final class SpreadingDeletes {
             return ABSENT;
         }
 
-        private static boolean isCascadeTo(State state, int reference, int row) {
-            return state.fact(reference, RULE) == CASCADE
-                    && state.fact(reference, PARENT) == row / KEYS;
-        }
-
-        /** Only for a reference that points to the row's table. */
-        private static boolean isChild(State state, int reference, int rank, int row) {
-            return rank < state.rowCounts[state.fact(reference, CHILD)]
-                    && state.valueBy(reference, rank) == row % KEYS;
-        }
-
         private void judge(State state) {
             refusal = 0;
             blocker = NONE;
             changes = 0;
             for (int reference = 0; reference < state.references; reference++) {
-                int child = state.fact(reference, CHILD);
-                for (int rank = 0; rank < state.rowCounts[child]; rank++) {
+                for (int rank = 0; rank < MOST_ROWS; rank++) {
                     if (!losesParent(state, reference, rank)) {
                         continue;
                     }
+                    int child = state.childAt(reference, rank);
                     refusal = refusalAt(state, reference, rank);
                     if (refusal != 0) {
-                        blocker = state.rowAt(child, rank);
+                        blocker = child;
                         return;
                     }
-                    if (marks[state.rowAt(child, rank)] == 0) {
+                    if (!isMarked(child)) {
                         changes++;
                     }
                 }
@@ -754,45 +735,39 @@ public final class SpreadingDeletes {
         }
 
         private boolean losesParent(State state, int reference, int rank) {
-            int value = state.valueBy(reference, rank);
-            return value != NULL && marks[rowNumber(state.fact(reference, PARENT), value)] != 0;
+            return isMarked(state.parentAt(reference, rank));
+        }
+
+        private boolean isMarked(int row) {
+            return row != ABSENT && marks[row] != 0;
         }
 
         /** The reason that a row which loses its parent gives, or 0. */
         private int refusalAt(State state, int reference, int rank) {
-            int row = state.rowAt(state.fact(reference, CHILD), rank);
+            int child = state.childAt(reference, rank);
             int rule = state.fact(reference, RULE);
             if (rule == RESTRICT) {
-                int parent = rowNumber(state.fact(reference, PARENT), state.valueBy(reference, rank));
-                return parent == row ? 0 : 1;
+                return state.parentAt(reference, rank) == child ? 0 : 1;
             }
-            if (marks[row] != 0) {
+            if (isMarked(child)) {
                 return 0;
             }
-            switch (rule) {
-                case NO_ACTION:
-                    return 2;
-                case SET_NULL:
-                    return refusalOfNull(state, reference);
-                case SET_DEFAULT:
-                    return refusalOfDefault(state, reference);
-                default:
-                    return 0;
+            if (rule == NO_ACTION) {
+                return 2;
             }
-        }
-
-        private static int refusalOfNull(State state, int reference) {
-            return state.fact(reference, MUST_HAVE) == 1 ? 3 : 0;
-        }
-
-        private int refusalOfDefault(State state, int reference) {
-            int standard = state.fact(reference, STANDARD);
-            if (standard == NULL) {
-                return refusalOfNull(state, reference);
+            int value = newValue(state, reference);
+            if (value == NULL) {
+                return state.fact(reference, MUST_HAVE) == 1 ? 3 : 0;
             }
             int parent = state.fact(reference, PARENT);
-            boolean stays = state.hasRow(parent, standard) && marks[rowNumber(parent, standard)] == 0;
+            boolean stays = state.slotOf(parent, value) != ABSENT && !isMarked(rowNumber(parent, value));
             return stays ? 0 : 4;
+        }
+
+        /** What a value becomes whose row stays while its parent goes. */
+        private static int newValue(State state, int reference) {
+            boolean takesDefault = state.fact(reference, RULE) == SET_DEFAULT;
+            return takesDefault ? state.fact(reference, STANDARD) : NULL;
         }
 
         /** Only if the plan was just made for this state and nothing refuses it. */
@@ -811,14 +786,14 @@ public final class SpreadingDeletes {
         }
 
         private void changeValues(State state, int reference) {
-            int child = state.fact(reference, CHILD);
             int column = state.fact(reference, COLUMN);
-            boolean takesDefault = state.fact(reference, RULE) == SET_DEFAULT;
-            int value = takesDefault ? state.fact(reference, STANDARD) : NULL;
-            for (int rank = 0; rank < state.rowCounts[child]; rank++) {
-                int row = state.rowAt(child, rank);
-                if (marks[row] == 0 && losesParent(state, reference, rank)) {
-                    state.changeValue(child, row % KEYS, column, value);
+            int value = newValue(state, reference);
+            for (int rank = 0; rank < MOST_ROWS; rank++) {
+                if (losesParent(state, reference, rank)) {
+                    int child = state.childAt(reference, rank);
+                    if (!isMarked(child)) {
+                        state.changeValue(child / KEYS, child % KEYS, column, value);
+                    }
                 }
             }
         }
@@ -923,7 +898,6 @@ public final class SpreadingDeletes {
 
         /** Tells whether there is a statement; if not, the place stays at the fault. */
         boolean readStatement() {
-            column = 0;
             first = NULL;
             second = NULL;
             if (take('+')) {
