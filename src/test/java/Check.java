@@ -2,23 +2,34 @@
 final class Check {
     private int wrong = 0;
     private int asked = 0;
+    private String place = "";
+
+    /** Tells what the following answers are about. */
+    void at(String newPlace) {
+        place = newPlace + ": ";
+    }
 
     void due(String what, int got, int want) {
+        holds(what + " answered " + got + ", due is " + want, got == want);
+    }
+
+    /** The words are printed if it does not hold. */
+    void holds(String what, boolean holds) {
         asked++;
-        if (got != want) {
+        if (!holds) {
             wrong++;
             if (wrong <= 50) {
-                System.out.println(what + " answered " + got + ", due is " + want);
+                System.out.println(place + what);
             }
         }
     }
 
-    void holds(String what, boolean holds) {
-        due(what, holds ? 1 : 0, 1);
-    }
-
     int wrong() {
         return wrong;
+    }
+
+    int asked() {
+        return asked;
     }
 
     void end() {

@@ -1,20 +1,5 @@
 /** For each promise: ordinary inputs, the edges that the document names, and wrong inputs. */
-public final class PromiseTest {
-    private static final int UNKNOWN = -2;
-    private static final int OUT_OF_RANGE = -3;
-    private static final int FULL = -4;
-    private static final int DUPLICATE = -5;
-    private static final int REQUIRED = -6;
-    private static final int NO_PARENT = -7;
-    private static final int NOT_POSSIBLE = -8;
-    private static final int NONE = -9;
-
-    private static final int RESTRICT = 0;
-    private static final int NO_ACTION = 1;
-    private static final int CASCADE = 2;
-    private static final int SET_NULL = 3;
-    private static final int SET_DEFAULT = 4;
-
+public final class PromiseTest extends Numbers {
     private final Check check = new Check();
 
     public static void main(String[] args) {
