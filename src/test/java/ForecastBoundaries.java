@@ -294,6 +294,17 @@ final class ForecastBoundaries extends Boundaries {
         run.still("0:2", rows[2], x -> x.isInRing(0, 2));
     }
 
+    /** Each row has the two next ones as its parents, so that there are far more ways than rows. */
+    private Run manyWays() {
+        Run run = tables(1).make(x -> x.addReference(0, 0, SET_NULL, false, -1),
+                x -> x.addReference(0, 0, SET_NULL, false, -1));
+        for (int row = 19; row >= 0; row--) {
+            int key = row;
+            run.make(x -> x.insert(0, key, Math.min(19, key + 1), Math.min(19, key + 2)));
+        }
+        return run.make(x -> x.update(0, 19, 0, -1), x -> x.update(0, 19, 1, -1));
+    }
+
     @Holds("Promise 25: Returns 1 or 0")
     void inARingOrNot() {
         known(SpreadingDeletes::isInRing, 0, 0);
@@ -314,6 +325,12 @@ final class ForecastBoundaries extends Boundaries {
         run.copy().answers("left out of the ring", 0, x -> x.isInRing(5, 0));
         run.copy().answers("in the shorter ring", 1, x -> x.isInRing(0, 1));
         run.copy().answers("in the shorter ring", 1, x -> x.isInRing(5, 19));
+        Run ways = manyWays();
+        for (int row = 0; row < 20; row++) {
+            int key = row;
+            ways.copy().answers("no way back to " + key, 0, x -> x.isInRing(0, key));
+            ways.copy().make(x -> x.update(0, 19, 1, 0)).answers("a way back to " + key, 1, x -> x.isInRing(0, key));
+        }
     }
 
     @Holds({"Promise 25: UNKNOWN", "Promise 25: `table`: a table", "Promise 25: `key`: the key of a row"})

@@ -92,6 +92,18 @@ final class HistoryBoundaries extends Boundaries {
         Run kept = run.copy().make(SpreadingDeletes::keep, SpreadingDeletes::undo);
         kept.changes("undo leaves the snapshot", 2, SpreadingDeletes::restore);
         kept.leadsTo("the snapshot", run);
+        // Column 0 of table 0 points to table 1, then to table 2, then to table 1 again.
+        Run columns = tables(3).make(x -> x.insert(1, 4, -1, -1), x -> x.insert(2, 5, -1, -1),
+                x -> x.addReference(0, 1, RESTRICT, false, -1), SpreadingDeletes::keep, SpreadingDeletes::undo,
+                SpreadingDeletes::addTable, x -> x.addReference(3, 0, RESTRICT, true, -1), x -> x.addReference(0, 2, RESTRICT, true, -1));
+        columns.still("the other parent table", NO_PARENT, x -> x.insert(0, 1, 4, -1));
+        columns.copy().changes("the other parent table", 1, x -> x.insert(0, 1, 5, -1));
+        columns.make(SpreadingDeletes::restore);
+        columns.still("the parent table of the snapshot", NO_PARENT, x -> x.insert(0, 1, 5, -1));
+        columns.copy().changes("the parent table of the snapshot", 1, x -> x.insert(0, 1, 4, -1));
+        columns.make(SpreadingDeletes::undo);
+        columns.still("the other parent table again", NO_PARENT, x -> x.insert(0, 1, 4, -1));
+        columns.copy().changes("the other parent table again", 1, x -> x.insert(0, 1, 5, -1));
     }
 
     @Holds("Promise 11: Restores the latest state of the history, and removes it from there")

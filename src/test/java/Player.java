@@ -18,6 +18,10 @@ final class Player {
         }
     }
 
+    boolean isAtEnd() {
+        return count >= MOST_CALLS;
+    }
+
     int play(Call call) {
         count++;
         if (count > MOST_CALLS) {

@@ -1,12 +1,16 @@
 import java.util.ArrayList;
 import java.util.List;
 
-/** A run of calls on a new object, and what is due after it. */
+/**
+ * A run of calls on a new object, and what is due after it. Each call is played twice: on an object
+ * that has seen nothing but what leads there, and on one that has seen all that was asked before.
+ */
 final class Run {
     private static final int MOST_STATES = 4;
 
     private final Check check;
     private final List<Player.Call> calls;
+    private final Player used;
 
     Run(Check check) {
         this(check, List.of());
@@ -15,6 +19,7 @@ final class Run {
     private Run(Check check, List<Player.Call> calls) {
         this.check = check;
         this.calls = new ArrayList<>(calls);
+        this.used = new Player(calls);
     }
 
     Run copy() {
@@ -26,19 +31,18 @@ final class Run {
         for (Player.Call call : more) {
             int answer = answer(call);
             check.holds("call " + calls.size() + " on the way answered " + answer, answer >= -1);
-            calls.add(call);
+            goOn("call " + calls.size() + " on the way", answer, call);
         }
         return this;
     }
 
     /** The same run with another text. */
     Run text(String text) {
-        Run other = copy();
-        other.calls.add(SpreadingDeletes::clearText);
+        List<Player.Call> longer = with(SpreadingDeletes::clearText);
         for (char character : text.toCharArray()) {
-            other.calls.add(x -> x.type(character));
+            longer.add(x -> x.type(character));
         }
-        return other;
+        return new Run(check, longer);
     }
 
     int answer(Player.Call call) {
@@ -48,13 +52,14 @@ final class Run {
     /** A call with this answer; the run goes on with it. */
     Run answers(String told, int want, Player.Call call) {
         check.due(told, answer(call), want);
-        calls.add(call);
+        goOn(told, want, call);
         return this;
     }
 
     /** A call with this answer, behind which everything is as it was; the run goes on without it. */
     Run still(String told, int want, Player.Call call) {
         check.due(told, answer(call), want);
+        playBehindAll(told, want, call);
         same(told + " changes nothing", Look.all(calls), Look.all(with(call)));
         return this;
     }
@@ -73,6 +78,17 @@ final class Run {
             after.add(SpreadingDeletes::undo);
         }
         return this;
+    }
+
+    private void goOn(String told, int want, Player.Call call) {
+        playBehindAll(told, want, call);
+        calls.add(call);
+    }
+
+    private void playBehindAll(String told, int want, Player.Call call) {
+        if (!used.isAtEnd()) {
+            check.due(told + ", behind all others", used.play(call), want);
+        }
     }
 
     /** Whether another run leads to the same state, whatever the ways. */

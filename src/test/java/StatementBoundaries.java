@@ -85,11 +85,16 @@ final class StatementBoundaries extends Boundaries {
         performs(run, "@1:6.0=n", x -> x.update(1, 6, 0, -1));
         performs(run, "@1:6.1=n", x -> x.update(1, 6, 1, -1));
         performs(run, "+1:7=5,6;-0:5", x -> x.insert(1, 7, 5, 6), x -> x.delete(0, 5));
+        performs(run, "+1:7=5,6;+1:8=5", x -> x.insert(1, 7, 5, 6), x -> x.insert(1, 8, 5, -1));
+        performs(run, "+1:7=5,6;+1:8", x -> x.insert(1, 7, 5, 6), x -> x.insert(1, 8, -1, -1));
+        performs(run, "@1:6.0=5;+1:8=n,6;@1:6.0=n;+1:9=5", x -> x.insert(1, 8, -1, 6), x -> x.update(1, 6, 0, -1),
+                x -> x.insert(1, 9, 5, -1));
         performs(run, "-1:6;+1:6=5;@1:6.1=6", x -> x.delete(1, 6), x -> x.insert(1, 6, 5, -1), x -> x.update(1, 6, 1, 6));
     }
 
     private static void performs(Run run, String text, Player.Call... calls) {
-        Run other = run.text(text).changes(text, calls.length, SpreadingDeletes::perform);
+        int statements = text.split(";").length;
+        Run other = run.text(text).changes(text, statements, SpreadingDeletes::perform);
         other.leadsTo(text, run.copy().make(calls));
     }
 
