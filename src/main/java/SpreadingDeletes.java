@@ -41,7 +41,7 @@ public final class SpreadingDeletes {
     private static final int NULL = -1;
     private static final int ABSENT = -1;
     private static final int FINE = 0;
-    private static final int NO_FAULT = -100;
+    private static final int FAULT_BASE = -100;
 
     private final State now = new State();
     private final State before = new State();
@@ -884,16 +884,16 @@ public final class SpreadingDeletes {
             rewind();
             for (int count = 1; count <= MOST_CHARACTERS; count++) {
                 if (!readStatement()) {
-                    return NO_FAULT - place;
+                    return FAULT_BASE - place;
                 }
                 if (place == length) {
                     return count;
                 }
                 if (!take(';')) {
-                    return NO_FAULT - place;
+                    return FAULT_BASE - place;
                 }
             }
-            return NO_FAULT - place;
+            return FAULT_BASE - place;
         }
 
         /** Tells whether there is a statement; if not, the place stays at the fault. */
